@@ -1,27 +1,75 @@
-/** Promise 11. */
+/** Promise 11, and TO COMPACT; what stands in quotes is the document's. */
 public final class CompactTest {
     private static final Check check = new Check();
 
     public static void main(String[] args) {
+        nothingThere();
         nothingToMove();
+        nothingIsLeftFree();
+        chunksBecomeOneWithoutObjects();
+        chunksBecomeOneBehindObjects();
+        movesByOneWord();
         movesInTheOrderOfAddresses();
-        chunksBecomeOne();
-        noRest();
-        leavesWhatNothingLeadsTo();
+        tellsOnlyThoseThatMoved();
+        movesAllEntries();
+        movesToTheLastWordToo();
+        leavesLooseOnesAndCounts();
+        oneChunkIsPlacedFromItsFirstWord();
         check.end();
     }
 
-    private static void nothingToMove() {
+    private static void nothingThere() {
         CountedObjects x = new CountedObjects(40, 4);
-        check.due("empty", x.compact(), 0);
-        check.due("chunks(40)", x.chunks(40), 1);
-        x.instantiate(0, 0, 5);
-        x.instantiate(1, 0, 5);
-        String before = Picture.of(x);
-        check.due("side by side", x.compact(), 0);
-        check.due("state", Picture.of(x), before);
+        check.due("compact()", x.compact(), 0);
+        check.dueState("compact()", x, Picture.of(new CountedObjects(40, 4)));
     }
 
+    private static void nothingToMove() {
+        CountedObjects x = Memory.row(40, 4, 7, 7);
+        check.due("compact()", x.compact(), 0);
+        check.dueState("compact()", x, Picture.of(Memory.row(40, 4, 7, 7)));
+    }
+
+    /** "the rest, if there is any, is the one free chunk" */
+    private static void nothingIsLeftFree() {
+        CountedObjects x = Memory.row(16, 4, 8, 8);
+        check.due("compact()", x.compact(), 0);
+        check.due("chunks(0)", x.chunks(0), 0);
+        check.due("free()", x.free(), 0);
+        check.dueThrow("no word is free", x, Check.STATE, y -> y.instantiate(2, 0, 0));
+    }
+
+    private static void chunksBecomeOneWithoutObjects() {
+        CountedObjects x = Memory.row(40, 4, 3, 3, 3);
+        Memory.clear(x, 0, 1, 2);
+        check.due("chunks(0)", x.chunks(0), 4);
+        check.due("compact()", x.compact(), 0);
+        check.dueState("compact()", x, Picture.of(new CountedObjects(40, 4)));
+    }
+
+    private static void chunksBecomeOneBehindObjects() {
+        CountedObjects x = Memory.row(40, 4, 3, 3, 3);
+        Memory.clear(x, 2, 1);
+        check.due("chunks(0)", x.chunks(0), 3);
+        check.due("none is moved", x.compact(), 0);
+        check.dueState("compact()", x, Picture.of(Memory.row(40, 4, 3)));
+    }
+
+    /** The new words of 4 overlap those that it had. */
+    private static void movesByOneWord() {
+        CountedObjects x = Memory.row(17, 4, 3, 11);
+        for (int k = 0; k < 9; k++) {
+            x.store(4, k, 2 * k + 1);
+        }
+        Memory.clear(x, 0);
+        x.instantiate(0, 0, 0);
+        check.due("a hole of one word", x.chunks(1), 1);
+        check.due("compact()", x.compact(), 1);
+        check.dueState("compact()", x, "2 4 0 0 0 0 0 0 ; 2 at 0 count 1 class 0 ()"
+                + "; 4 at 2 count 1 class 0 (1 3 5 7 9 11 13 15 17); chunks 1*0 1*4; free 4, objects 2");
+    }
+
+    /** "all objects are moved, in the order of their addresses" */
     private static void movesInTheOrderOfAddresses() {
         CountedObjects x = new CountedObjects(40, 8);
         x.instantiate(0, 0, 1);
@@ -33,62 +81,69 @@ public final class CompactTest {
         x.store(8, 3, -9);
         x.store(10, 4, 10);
         x.become(6, 10);
-        x.set(1, 0);
-        x.set(0, 0);
-        check.due("only what lies behind the first hole", x.compact(), 4);
-        check.due("state", Picture.of(x), "0 0 6 8 10 0 0 0 "
+        Memory.clear(x, 1, 0);
+        check.due("compact()", x.compact(), 4);
+        check.dueState("compact()", x, "0 0 6 8 10 0 0 0 "
                 + "; 4 at 0 count 1 class 0 (0 0)"
                 + "; 6 at 15 count 1 class 0 (0 0 0 0 10)"
                 + "; 8 at 9 count 2 class 4 (0 0 0 -9)"
                 + "; 10 at 4 count 2 class 7 (0 0 8)"
                 + "; chunks 1*0 1*18; free 18, objects 4");
         check.due("and no more", x.compact(), 0);
-        x.set(3, 0);
-        x.set(4, 0);
-        x.instantiate(5, 0, 0);
-        check.due("2 at 22", x.address(2), 22);
-        x.store(10, 2, 0);
-        check.due("4 and 8 are let go", x.objects(), 3);
-        check.due("10, 6 and 2", x.compact(), 3);
-        check.due("address(10)", x.address(10), 0);
-        check.due("address(6)", x.address(6), 5);
-        check.due("address(2)", x.address(2), 12);
     }
 
-    private static void chunksBecomeOne() {
-        CountedObjects x = new CountedObjects(40, 4);
-        x.instantiate(0, 0, 1);
-        x.instantiate(1, 0, 1);
-        x.instantiate(2, 0, 1);
-        x.set(2, 0);
-        x.set(1, 0);
-        check.due("chunks(0)", x.chunks(0), 3);
-        check.due("none is moved", x.compact(), 0);
-        check.due("chunks(0)", x.chunks(0), 1);
-        check.due("chunks(37)", x.chunks(37), 1);
+    /** "Answers how many objects have another address then." */
+    private static void tellsOnlyThoseThatMoved() {
+        for (int hole = 0; hole < 5; hole++) {
+            CountedObjects x = Memory.row(40, 8, 4, 4, 4, 4, 4);
+            Memory.clear(x, hole);
+            check.due("behind the hole " + hole, x.compact(), 4 - hole);
+            check.due("chunks(24)", x.chunks(24), 1);
+        }
+    }
+
+    private static void movesAllEntries() {
+        CountedObjects x = new CountedObjects(400, 40);
+        x.instantiate(0, 0, 0);
+        for (int i = 1; i < 40; i++) {
+            Memory.made(x, 2 + i % 7);
+        }
         x.set(0, 0);
-        check.due("compact()", x.compact(), 0);
-        check.due("chunks(40)", x.chunks(40), 1);
+        Memory.made(x, 22);
+        check.due("all are behind the hole", x.compact(), 40);
+        check.due("address(4)", x.address(4), 0);
+        check.due("address(2), it is behind the others", x.address(2), 193);
+        check.due("free()", x.free(), 185);
     }
 
-    private static void noRest() {
-        CountedObjects x = new CountedObjects(16, 4);
-        x.instantiate(0, 0, 6);
-        x.instantiate(1, 0, 6);
-        check.due("compact()", x.compact(), 0);
-        check.due("chunks(0)", x.chunks(0), 0);
-        check.due("free()", x.free(), 0);
-    }
-
-    private static void leavesWhatNothingLeadsTo() {
-        CountedObjects x = new CountedObjects(40, 4);
-        x.instantiate(0, 0, 1);
-        x.instantiate(1, 0, 1);
-        x.store(4, 0, 4);
-        x.set(0, 0);
-        x.set(1, 0);
+    private static void movesToTheLastWordToo() {
+        CountedObjects x = Memory.row(16, 4, 2, 14);
+        x.store(4, 11, 5);
+        Memory.clear(x, 0);
         check.due("compact()", x.compact(), 1);
+        check.due("fetch(4, 11)", x.fetch(4, 11), 5);
+        check.due("chunks(2)", x.chunks(2), 1);
+        check.due("the last two words", Memory.placed(x, 2), 14);
+    }
+
+    private static void leavesLooseOnesAndCounts() {
+        CountedObjects x = Memory.row(40, 4, 3, 3, 8);
+        Memory.clear(x, 0);
+        Memory.loosen(x, 1);
+        Memory.forget(x, 2);
+        check.due("compact()", x.compact(), 2);
         check.due("address(4)", x.address(4), 0);
         check.due("count(4)", x.count(4), 1);
+        check.due("address(6)", x.address(6), 3);
+        check.due("count(6)", x.count(6), 7);
+    }
+
+    private static void oneChunkIsPlacedFromItsFirstWord() {
+        CountedObjects x = Memory.row(40, 8, 3, 3, 3);
+        Memory.clear(x, 0);
+        check.due("compact()", x.compact(), 2);
+        check.due("behind the objects", Memory.placed(x, 3), 6);
+        check.due("chunks(0)", x.chunks(0), 1);
+        check.due("chunks(31)", x.chunks(31), 1);
     }
 }

@@ -39,10 +39,10 @@ final class Model {
 
     int instantiate(int r, int type, int n) {
         boolean collected = false;
-        if (bodies.size() == entries) {
+        if (objects() == entries) {
             collect(type);
             collected = true;
-            if (bodies.size() == entries) {
+            if (objects() == entries) {
                 return NO_ROOM;
             }
         }
@@ -154,8 +154,40 @@ final class Model {
         }
         text.append("; chunks");
         bySize.forEach((size, many) -> text.append(' ').append(many).append('*').append(size));
-        text.append("; free ").append(freeWords()).append(", objects ").append(bodies.size());
+        text.append("; free ").append(free()).append(", objects ").append(objects());
         return text.toString();
+    }
+
+    int register(int r) {
+        return registers[r];
+    }
+
+    int fetch(int o, int k) {
+        return bodies.get(o).values.get(k + 1);
+    }
+
+    int type(int o) {
+        return bodies.get(o).values.get(0);
+    }
+
+    int count(int o) {
+        return counts.getOrDefault(o, 0);
+    }
+
+    int address(int o) {
+        return isObject(o) ? bodies.get(o).address : -1;
+    }
+
+    int chunks(int size) {
+        return (int) youngestFirst.stream().filter(chunk -> size == 0 || chunk.size == size).count();
+    }
+
+    int free() {
+        return youngestFirst.stream().mapToInt(Chunk::size).sum();
+    }
+
+    int objects() {
+        return bodies.size();
     }
 
     boolean isObject(int v) {
@@ -192,10 +224,6 @@ final class Model {
         return all.stream().mapToInt(Chunk::size).sum() == words ? "" : "a word without an owner";
     }
 
-    private int freeWords() {
-        return youngestFirst.stream().mapToInt(Chunk::size).sum();
-    }
-
     private int references(int o) {
         int found = 0;
         for (int v : registers) {
@@ -226,7 +254,7 @@ final class Model {
             youngestFirst.add(0, new Chunk(least.start + size, least.size - size));
             return least.start;
         }
-        if (freeWords() < size) {
+        if (free() < size) {
             return NO_ROOM;
         }
         compact();
