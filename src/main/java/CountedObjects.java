@@ -256,7 +256,6 @@ public final class CountedObjects {
     private void freeEntry(int entry) {
         freeChunks.add(addresses[entry], wordsOf(entry));
         addresses[entry] = NOWHERE;
-        counts[entry] = 0;
     }
 
     /** Answers where the words of a new object can lie, or NOWHERE; collects when it must. */

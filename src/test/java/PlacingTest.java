@@ -15,6 +15,7 @@ public final class PlacingTest {
         chunksSideBySideDoNotJoin();
         restDoesNotJoin();
         oneWordIsAChunkThatHoldsNone();
+        mostChunks();
         compactsOnlyWhenNoChunkHasSoMany();
         compactsForJustAllFreeWords();
         doesNotCompactForOneWordMore();
@@ -134,6 +135,22 @@ public final class PlacingTest {
         check.due("two words of one and one", Memory.placed(x, 2), 15);
         check.due("compacted", x.address(4), 2);
         check.due("free()", x.free(), 0);
+    }
+
+    /** Of 16 words: no more are possible, since a chunk of two words is never parted. */
+    private static void mostChunks() {
+        CountedObjects x = Memory.row(16, 20, 3, 3, 3, 3, 3);
+        Memory.clear(x, 0, 1, 2, 3, 4);
+        for (int r = 0; r < 5; r++) {
+            check.due("two words of three, the youngest", x.address(x.instantiate(r, 0, 0)), 12 - 3 * r);
+        }
+        Memory.clear(x, 0, 1, 2, 3, 4);
+        check.due("chunks(1)", x.chunks(1), 6);
+        check.due("chunks(2)", x.chunks(2), 5);
+        check.due("chunks(0)", x.chunks(0), 11);
+        check.due("the youngest", Memory.placed(x, 2), 0);
+        check.due("chunks(0)", x.chunks(0), 10);
+        check.due("all that is left", Memory.placed(x, 14), 2);
     }
 
     private static void compactsOnlyWhenNoChunkHasSoMany() {
